@@ -2,12 +2,7 @@
  * For each promise of the document what it says of ordinary inputs, of its edges and of wrong
  * inputs, with answers worked out by hand.
  */
-public final class PromiseTests {
-  private static final int NONE = -1, BAD = -2, NOT = -3, FULL = -4;
-  private static final int NULL = -11, INDEX = -12, CAST = -13, UNLIKE = -14, SIZE = -15;
-  private static final int INPUT = 0, INVERTER = 1, AND = 2, OR = 3, XOR = 4, STORE = 5;
-  private static final int[] FAR = {Integer.MIN_VALUE, -1000, -5, 1000000, Integer.MAX_VALUE};
-
+public final class PromiseTests extends TestBase {
   private PromiseTests() {
   }
 
@@ -47,34 +42,6 @@ public final class PromiseTests {
     promise31Digest();
     refusalsChangeNothing();
     Due.end("PromiseTests");
-  }
-
-  private static void due(String call, long got, long want) {
-    Due.due(call, got, want);
-  }
-
-  private static int input(ThriceNets x) {
-    return x.node(INPUT, NONE, NONE);
-  }
-
-  private static int store(ThriceNets x) {
-    return x.node(STORE, NONE, NONE);
-  }
-
-  private static ThriceNets withStores(int n) {
-    ThriceNets x = new ThriceNets();
-    for (int s = 0; s < n; s++) {
-      store(x);
-    }
-    return x;
-  }
-
-  /** SHEET 0 as ints, the item of each TICK. */
-  private static void inputs(ThriceNets x, int... items) {
-    due("1 sheet", x.sheet(0, 2, items.length), items.length);
-    for (int i = 0; i < items.length; i++) {
-      due("1 put", x.put(0, 2, i, items[i]), 1);
-    }
   }
 
   private static void promise1New() {
@@ -903,12 +870,6 @@ public final class PromiseTests {
       x.put(0, form, i, i + 1);
     }
     return x;
-  }
-
-  private static void dueItems(String what, ThriceNets x, int s, int form, int... items) {
-    for (int i = 0; i < items.length; i++) {
-      due(what + ", item " + i, x.get(s, form, i), items[i]);
-    }
   }
 
   private static void promise29Move() {
