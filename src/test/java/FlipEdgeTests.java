@@ -11,6 +11,7 @@ public final class FlipEdgeTests extends TestBase {
     sameTwice();
     manyAnswers();
     manyOfAll();
+    manyBelowSpan();
     manyRefusals();
     firstAnswers();
     firstByOrder();
@@ -178,6 +179,32 @@ public final class FlipEdgeTests extends TestBase {
     }
   }
 
+  /** INPUTS, then as many STORES that are OUTPUTS, each of which takes one of them. */
+  private static ThriceNets takingInputs(int n) {
+    ThriceNets x = withInputs(n);
+    for (int node = n; node < 2 * n; node++) {
+      store(x);
+      x.feed(node, node - n);
+      x.output(node, true);
+    }
+    return x;
+  }
+
+  private static void manyBelowSpan() {
+    Due.says("How many FLIPS (of all TICKS below T");
+    for (int n = 1; n <= 12; n += 11) {
+      for (int t = 1; t <= 16; t += 3) {
+        ThriceNets x = takingInputs(n);
+        x.ticks(t);
+        // An INPUT's FLIP is told a TICK later: in the last TICK it can't be SEEN any more.
+        String of = n + " INPUTS, T " + t;
+        due("SEEN of " + of, x.many(1), n * (2 * t - 1));
+        due("LINGER of " + of, x.many(2), n);
+        due("neither or both of " + of, x.many(0) + x.many(3), 0);
+      }
+    }
+  }
+
   private static void manyRefusals() {
     Due.says("`int many(int what)`");
     int[] none = {LEAST, -2, -1, 4, 5, MOST};
@@ -237,6 +264,12 @@ public final class FlipEdgeTests extends TestBase {
     ThriceNets y = withStores(2);
     y.output(1, true);
     due("LINGERS alone is not SEEN", y.first(), 10);
+    ThriceNets taking = takingInputs(12);
+    allThrice(taking);
+    taking.thrice(11, false);
+    due("SEEN a TICK later", taking.first(), 110);
+    taking.ticks(1);
+    due("behind the last TICK it is not", taking.first(), NONE);
   }
 
   private static void maskedAnswers() {
@@ -272,6 +305,11 @@ public final class FlipEdgeTests extends TestBase {
     }
     x.lose(0);
     due("in none", x.masked(0), 1);
+    ThriceNets taking = takingInputs(1);
+    taking.ticks(1);
+    due("SEEN behind the last TICK alone", taking.masked(0), 1);
+    taking.ticks(2);
+    due("SEEN in it", taking.masked(0), 0);
   }
 
   private static void maskedRefusals() {
@@ -311,6 +349,16 @@ public final class FlipEdgeTests extends TestBase {
     due("TICK 3: INPUT 0 with any other COPY, too", y.pairs(3), 3 + 6);
     y.ticks(4);
     due("TICK 3, the last", y.pairs(3), 9);
+    for (int n = 2; n <= 12; n += 5) {
+      ThriceNets taking = takingInputs(n);
+      for (int t = 1; t <= 15; t += 7) {
+        int all = 2 * n * (2 * n - 1) / 2;
+        taking.ticks(t);
+        due("the last TICK, T " + t + ": all but two INPUTS", taking.pairs(t - 1), all - n * (n - 1) / 2);
+        taking.ticks(t + 1);
+        due("the last but one, T " + t + ": all", taking.pairs(t - 1), all);
+      }
+    }
   }
 
   private static void pairsOfUnlike() {

@@ -104,6 +104,15 @@ public final class NetEdgeTests extends TestBase {
       due("KIND " + node + " of 0", all.plain(node, 0), at0[node]);
       due("KIND " + node + " of 1", all.plain(node, 1), at1[node]);
     }
+    int[][] truth = {{0, 0, 0, 1}, {0, 1, 1, 1}, {0, 1, 1, 0}};
+    for (int kind = AND; kind <= XOR; kind++) {
+      ThriceNets two = withInputs(2);
+      two.node(kind, 0, 1);
+      inputs(two, 0, 1, 2, 3);
+      for (int tick = 0; tick < 4; tick++) {
+        due("KIND " + kind + " of the bits of " + tick, two.plain(2, tick), truth[kind - AND][tick]);
+      }
+    }
   }
 
   /** Whether a SOURCE is one of the NODES 0 .. 2 of a net of three. */

@@ -318,6 +318,9 @@ public final class RunEdgeTests extends TestBase {
         due("COPY " + c + " of the SOURCE, " + d + " of the gate", x.flips(0, 0, c, 0, gate, d), c == d ? 0 : 3);
       }
       due("COPY " + c + " comes to that of the STORE", x.flip(0, 0, c), 2);
+      x.output(gate, false);
+      due("COPY " + c + ", and no OUTPUT", x.flip(0, 0, c), 2);
+      x.output(gate, true);
     }
     x.thrice(0, false);
     due("all COPIES take a SINGLE one", x.flip(0, 0, 0), 3);
@@ -340,6 +343,19 @@ public final class RunEdgeTests extends TestBase {
         due("one FLIP, KIND " + kind, x.flip(0, 1, c), 0);
         due("two FLIPS, KIND " + kind, x.flips(0, 1, c, 0, 1, (c + 1) % 3), 1);
       }
+    }
+    // Of each SOURCE another COPY: two of the AND's COPIES would be wrong, but it has one.
+    ThriceNets both = withInputs(2);
+    int and = both.node(AND, 0, 1);
+    inputs(both, 3);
+    allThrice(both);
+    both.output(and, true);
+    for (int c = 0; c < 3; c++) {
+      int d = (c + 1) % 3;
+      due("a THRICE AND of two SOURCES", both.flips(0, 0, c, 0, 1, d), 1);
+      both.thrice(and, false);
+      due("a SINGLE AND of two SOURCES", both.flips(0, 0, c, 0, 1, d), 0);
+      both.thrice(and, true);
     }
     ThriceNets y = withInputs(1);
     y.feed(store(y), 0);

@@ -73,6 +73,10 @@ public final class VoterEdgeTests extends TestBase {
       due("by the second SOURCE, KIND " + kind, z.leads(1, 2), 1);
       due("by neither, KIND " + kind, z.leads(3, 2) + z.leads(2, 2), 0);
     }
+    ThriceNets not = withStores(4);
+    not.feed(2, not.node(INVERTER, 1, NONE));
+    due("by the SOURCE of a NOT", not.leads(1, 2), 1);
+    due("by that alone", not.leads(0, 2) + not.leads(2, 2) + not.leads(3, 2), 0);
     ThriceNets same = withStores(1);
     same.feed(0, same.node(XOR, 0, 0));
     due("a way is a way, whatever comes over it", same.leads(0, 0), 1);
@@ -287,6 +291,8 @@ public final class VoterEdgeTests extends TestBase {
     y.feed(2, 3);
     y.feed(3, 2);
     due("by STORES' numbers", y.best(), 1);
+    y.price(2, 5);
+    due("by STORES' PRICES", y.best(), 2);
   }
 
   private static void twelveAtMost() {
@@ -356,6 +362,15 @@ public final class VoterEdgeTests extends TestBase {
     due("VOTED", 10 * z.about(0, 5) + z.about(1, 5), 1);
     input(z);
     due("a NODE behind it is SINGLE", z.about(2, 4), 0);
+    ThriceNets w = withInputs(12);
+    for (int node = 12; node < 24; node++) {
+      store(w);
+      w.feed(node, node == 23 ? 23 : 0);
+    }
+    due("by STORES' numbers", w.harden(), 1);
+    for (int node = 12; node < 24; node++) {
+      due("VOTED is NODE 23 alone: " + node, w.about(node, 5), node == 23 ? 1 : 0);
+    }
   }
 
   private static void hardenRefusals() {
