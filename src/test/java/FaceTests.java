@@ -31,6 +31,7 @@ public final class FaceTests {
 
   public static void main(String[] args) throws Exception {
     face();
+    documentsFace();
     constants();
     nested();
     source();
@@ -62,6 +63,20 @@ public final class FaceTests {
     Due.dueTrue("it is public", Modifier.isPublic(constructors[0].getModifiers()));
     Due.dueTrue("the class is public", Modifier.isPublic(ThriceNets.class.getModifiers()));
     Due.dueTrue("the class is final", Modifier.isFinal(ThriceNets.class.getModifiers()));
+  }
+
+  /** FACE is the document's own (where that is at hand). */
+  private static void documentsFace() throws IOException {
+    Path document = Path.of("../shared/DOC.md");
+    if (!Files.exists(document)) {
+      return;
+    }
+    Set<String> told = new TreeSet<>();
+    Matcher row = Pattern.compile("(?m)^ +public (int|long) (\\w+)\\((.*)\\);$").matcher(Files.readString(document));
+    while (row.find()) {
+      told.add(row.group(1) + " " + row.group(2) + "(" + row.group(3).replaceAll(" \\w+(?=,|$)", "") + ")");
+    }
+    Due.dueTrue("the document's face is " + told, told.equals(new TreeSet<>(Arrays.asList(FACE))));
   }
 
   private static void constants() {
